@@ -435,7 +435,6 @@ public final class SameTerms {
         static final int MOST_STEPS = 2 * MOST_TERMS;
 
         private static final int BUCKETS = 256;
-        private static final int STANDS = 0, LOOSE = 1, DONE = 2;
 
         int expected;
 
@@ -444,7 +443,7 @@ public final class SameTerms {
         private final int[] bucket = new int[BUCKETS];
         private final int[] nextInBucket = new int[MOST_TERMS];
         private final int[] sign = new int[MOST_TERMS];
-        private final int[] state = new int[MOST_TERMS];
+        private final boolean[] stands = new boolean[MOST_TERMS];
         private final int[] loose = new int[MOST_TERMS];
         private int looseTotal;
 
@@ -506,8 +505,8 @@ public final class SameTerms {
                 int how = terms.lastUse[part];
                 for (int j = 0; j < Terms.MOST_USES && how != NONE; j++) {
                     int user = how / 2;
-                    if (state[user] == STANDS) {
-                        state[user] = LOOSE;
+                    if (stands[user]) {
+                        stands[user] = false;
                         loose[looseTotal] = user;
                         looseTotal++;
                     }
@@ -517,7 +516,7 @@ public final class SameTerms {
             }
         }
 
-        /** A loose application that still stands does no harm: its sign has a top that is none any more. */
+        /** Until then a loose application does no harm in its bucket: its sign has a top that is none any more. */
         private void takeOut(int t) {
             int in = sign[t] % BUCKETS;
             if (bucket[in] == t) {
@@ -540,13 +539,12 @@ public final class SameTerms {
             int standing = bucket[in];
             for (int i = 0; i < MOST_TERMS && standing != NONE; i++) {
                 if (sign[standing] == made) {
-                    state[t] = DONE;
                     expect(t, standing);
                     return;
                 }
                 standing = nextInBucket[standing];
             }
-            state[t] = STANDS;
+            stands[t] = true;
             sign[t] = made;
             nextInBucket[t] = bucket[in];
             bucket[in] = t;

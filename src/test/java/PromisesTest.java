@@ -382,6 +382,10 @@ public final class PromisesTest {
         due("14: after other equations", x.why(p, q, NONE), 2);
         due("14: the second of these", x.why(p, q, 1), 4);
         due("14: the other way round", x.why(q, p, 0), 1);
+        due("14: of another with the second", x.why(0, p, NONE), NONE);
+        due("14: of two", x.why(0, 2, NONE), 2);
+        due("14: of another with the second", x.why(1, 2, NONE), 1);
+        due("14: of the first with another", x.why(1, 0, NONE), 1);
     }
 
     private static void whyFromTheLatest() {
