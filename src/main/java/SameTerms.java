@@ -505,7 +505,7 @@ public final class SameTerms {
                 int how = terms.lastUse[part];
                 for (int j = 0; j < Terms.MOST_USES && how != NONE; j++) {
                     int user = how / 2;
-                    if (stands[user]) {
+                    if (stands[user] && looseTotal < loose.length) {
                         stands[user] = false;
                         loose[looseTotal] = user;
                         looseTotal++;

@@ -27,6 +27,9 @@ public final class ManyRunsTest {
         for (int seed = 0; seed < 200; seed++) {
             new ManyRunsTest("chain", seed).chain();
         }
+        for (int seed = 0; seed < 40; seed++) {
+            new ManyRunsTest("strides", seed).strides();
+        }
         CHECK.end();
     }
 
@@ -90,6 +93,28 @@ public final class ManyRunsTest {
                 equate(1 + random.nextInt(length), random.nextBoolean() ? 1 : 1 + random.nextInt(length));
             } else if (random.nextInt(30) == 0) {
                 back(1);
+            } else {
+                ask();
+            }
+        }
+    }
+
+    /** Applications whose parts are evenly spaced: a program that sorts them by sums or remainders has many alike. */
+    private void strides() {
+        int names = 20 + random.nextInt(40);
+        int stride = 1 + random.nextInt(12);
+        for (int i = 0; i < names; i++) {
+            constant();
+        }
+        int start = random.nextInt(names);
+        for (int i = 0; i < 2 * names; i++) {
+            apply(i % names, (start + stride * (i % names) + i / names) % names);
+        }
+        while (calls < 350) {
+            if (random.nextInt(6) == 0) {
+                equate(random.nextInt(names), random.nextInt(names));
+            } else if (random.nextInt(40) == 0) {
+                back(1 + random.nextInt(3));
             } else {
                 ask();
             }

@@ -32,6 +32,7 @@ public final class PromisesTest {
         count();
         wrongTerms();
         laterApplicationsCount();
+        evenlySpacedApplications();
         answersChangeNothing();
         CHECK.end();
     }
@@ -576,6 +577,34 @@ public final class PromisesTest {
         due("15: gives(1, p, q)", x.gives(1, p, q), 1);
         due("15: gives(1, p, r)", x.gives(1, p, r), 0);
         due("17: count(3)", x.count(3), 3);
+    }
+
+    // Pairs with even spaces are those that a program which sorts by sums or remainders takes for alike.
+    private static void evenlySpacedApplications() {
+        for (int space = 1; space <= 6; space++) {
+            for (int moved = 0; moved < 8; moved++) {
+                for (int found = 0; found < 8; found++) {
+                    spacedApplications(space, moved, found, false);
+                    spacedApplications(space, moved, found, true);
+                }
+            }
+        }
+    }
+
+    private static void spacedApplications(int space, int moved, int found, boolean down) {
+        SameTerms x = withConstants(60);
+        for (int i = 0; i < 8; i++) {
+            x.apply(i, down ? 56 - space * i : 10 + space * i);
+        }
+        int like = x.apply(59, down ? 56 - space * found : 10 + space * found);
+        x.equate(moved, 58);
+        x.equate(59, found);
+        String of = "(" + (60 + found) + ", " + like + "), space " + space + ", " + moved + " is 58";
+        due("9: same" + of, x.same(60 + found, like), 1);
+        due("12: since" + of, x.since(60 + found, like), 2);
+        due("13: round" + of, x.round(60 + found, like), 1);
+        due("17: count(3)" + of, x.count(3), 66);
+        due("15: gives" + of, x.gives(1, 60 + found, like), 0);
     }
 
     private static void answersChangeNothing() {
