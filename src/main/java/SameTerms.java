@@ -234,9 +234,8 @@ public final class SameTerms {
         closure.settle(terms, trial, 0);
     }
 
-    /** How many of the first equations are enough, at least, beside those that are kept. */
-    private int enoughBeside(long kept, int a, int b) {
-        closeOver(kept);
+    /** How many of the first equations are enough, at least, beside those that are tried already. */
+    private int enoughBesideTrial(int a, int b) {
         for (int i = 0; i < equations.total && trial.meeting(a, b) == NONE; i++) {
             closure.expect(equations.left[i], equations.right[i]);
             closure.settle(terms, trial, i + 1);
@@ -256,7 +255,8 @@ public final class SameTerms {
         int needed = classes().meeting(a, b);
         for (int i = 0; i < MOST_EQUATIONS && needed > 0; i++) {
             kept |= 1L << (needed - 1);
-            needed = enoughBeside(kept, a, b);
+            closeOver(kept);
+            needed = enoughBesideTrial(a, b);
         }
         reasonsHold = true;
         reasonsOne = a;
@@ -359,7 +359,8 @@ public final class SameTerms {
      * up never fall, and of two terms it can still be told when they met.
      */
     private static final class Forest {
-        private static final int NEVER = Integer.MAX_VALUE;
+        // Later than any time: no number of equations and no round comes near it.
+        private static final int NEVER = 1_000_000;
 
         final int[] members = new int[MOST_TERMS];
         final int[] lowest = new int[MOST_TERMS];
